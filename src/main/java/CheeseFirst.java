@@ -41,7 +41,9 @@ public final class CheeseFirst {
     private final Winter winter = new Winter();
     private final Winter firstImage = new Winter();
     private final Winter secondImage = new Winter();
-    private final Outlook outlook = new Outlook(held);
+    // BEST is asked most and is dear: what else is worked out has rows of its own, so that BEST's stay
+    private final Outlook best = new Outlook(held);
+    private final Outlook aside = new Outlook(held);
     private final BlindRow blindRow = new BlindRow(held);
     private final Spread spread = new Spread();
     private final Thought mind = new Thought(held);
@@ -84,7 +86,8 @@ public final class CheeseFirst {
         firstImage.kept = false;
         secondImage.kept = false;
         mind.beginAnew(0);
-        outlook.forgetAll();
+        best.forgetAll();
+        aside.forgetAll();
         blindRow.forgetAll();
         return items;
     }
@@ -195,12 +198,17 @@ public final class CheeseFirst {
         return rule >= OLD && rule <= BEST;
     }
 
-    public int value(int rule) {
-        return isRule(rule) ? valueNow(rule, winter.stopped) : BAD;
+    private Outlook outlookBy(int rule) {
+        Outlook outlook = rule == BEST ? best : aside;
+        outlook.lookBy(rule, winter.stopped);
+        return outlook;
     }
 
-    private int valueNow(int rule, int stopped) {
-        outlook.lookBy(rule, stopped);
+    public int value(int rule) {
+        return isRule(rule) ? valueNow(outlookBy(rule)) : BAD;
+    }
+
+    private int valueNow(Outlook outlook) {
         int stand = lean(winter.stand);
         if (winter.acted) {
             return outlook.valueBehind(winter.week, stand);
@@ -212,12 +220,11 @@ public final class CheeseFirst {
         if (!isRule(rule)) {
             return BAD;
         }
-        outlook.lookBy(rule, winter.stopped);
         int stand = lean(winter.stand);
-        if (winter.acted && !isOver()) {
-            return outlook.leftBehind(winter.week, stand);
+        if (winter.acted) {
+            return outlookBy(rule).leftBehind(winter.week, stand);
         }
-        return outlook.leftAhead(winter.week, stand);
+        return outlookBy(rule).leftAhead(winter.week, stand);
     }
 
     public int choice(int rule) {
@@ -225,11 +232,7 @@ public final class CheeseFirst {
     }
 
     private int choiceNow(int rule) {
-        if (!mayActNow()) {
-            return NOTHING;
-        }
-        outlook.lookBy(rule, winter.stopped);
-        return outlook.choiceAt(winter.week, lean(winter.stand));
+        return mayActNow() ? outlookBy(rule).choiceAt(winter.week, lean(winter.stand)) : NOTHING;
     }
 
     public int brings(int code) {
@@ -239,8 +242,7 @@ public final class CheeseFirst {
         if (code != NOTHING && (!mayActNow() || !held.mayBe(winter.stand, code))) {
             return NO;
         }
-        outlook.lookBy(BEST, winter.stopped);
-        return outlook.broughtBy(winter.week, lean(winter.stand), code);
+        return outlookBy(BEST).broughtBy(winter.week, lean(winter.stand), code);
     }
 
     public int play(int rule) {
@@ -273,15 +275,15 @@ public final class CheeseFirst {
 
     public int know() {
         blindRow.lookFrom(winter);
-        return valueNow(BEST, winter.stopped) - blindRow.best;
+        return valueNow(outlookBy(BEST)) - blindRow.best;
     }
 
     public int spare(int w) {
         if (!held.isWheel(w)) {
             return NO;
         }
-        int asItIs = valueNow(BEST, winter.stopped);
-        return valueNow(BEST, winter.stopped | 1 << w) - asItIs;
+        aside.lookBy(BEST, winter.stopped | 1 << w);
+        return valueNow(aside) - valueNow(outlookBy(BEST));
     }
 
     // ---- chances, thoughts
@@ -867,19 +869,19 @@ public final class CheeseFirst {
     }
 
     /**
-     * What a RULE brings and leaves, from any WEEK and STAND on. What was worked out stays in rows till
-     * the RULE, what is STOPPED, or the cellar is another: a new stamp then makes all of it void.
+     * What a RULE brings and leaves, from any WEEK and STAND on. What was worked out stays in rows, each
+     * number under the stamp of its time: another RULE, another cellar, other WHEELS STOPPED are a new
+     * stamp, by which all that is older is void. STANDS are lean here.
      */
     private static final class Outlook {
         private final Cellar cellar;
         private int rule = OLD;
         private int stopped = 0;
-        private int stamp = 0;
         private int bits = 0;
-        private int[] stamps = new int[0];
-        private int[] values = new int[0];
-        private int[] lefts = new int[0];
-        private int[] choices = new int[0];
+        private long stamp = 1;
+        private long[] plans = new long[0];
+        private long[] values = new long[0];
+        private long[] lefts = new long[0];
 
         Outlook(Cellar cellar) {
             this.cellar = cellar;
@@ -897,56 +899,97 @@ public final class CheeseFirst {
             rule = newRule;
             stopped = newStopped;
             int room = cellar.wheels == 0 ? 0 : cellar.weeks << bits;
-            if (room > stamps.length) {
-                stamps = new int[room];
-                values = new int[room];
-                lefts = new int[room];
-                choices = new int[room];
+            if (room > plans.length) {
+                plans = new long[room];
+                values = new long[room];
+                lefts = new long[room];
             }
         }
 
-        /** The MEAN of the VALUE that follows a WEEK whose ACT is done. */
-        int valueBehind(int week, int stand) {
-            int at = workedOut(week, stand);
-            return at < 0 ? 0 : values[at];
+        private long stamped(int number) {
+            return stamp << 32 | number;
         }
 
-        int leftBehind(int week, int stand) {
-            int at = workedOut(week, stand);
-            return at < 0 ? 0 : lefts[at];
+        private boolean isVoid(long stampedNumber) {
+            return stampedNumber >> 32 != stamp;
         }
 
         /** The VALUE at a WEEK whose ACT is not done. */
         int valueAhead(int week, int stand) {
-            return week >= cellar.weeks ? 0 : broughtBy(week, stand, choiceAt(week, stand));
+            return week >= cellar.weeks ? 0 : planAt(week, stand) >> 3;
         }
 
         int leftAhead(int week, int stand) {
             if (week >= cellar.weeks) {
                 return 1000 * allPortions(stand);
             }
-            return leftBehind(week, lean(cellar.standAfter(stand, choiceAt(week, stand))));
-        }
-
-        int broughtBy(int week, int stand, int code) {
-            int then = lean(cellar.standAfter(stand, code));
-            return 1000 * cellar.hadBy(stand, code, week) + valueBehind(week, then);
+            return leftBehind(week, standBehind(stand, choiceAt(week, stand)));
         }
 
         int choiceAt(int week, int stand) {
+            return planAt(week, stand) & 7;
+        }
+
+        /** The MEAN of the VALUE that follows a WEEK whose ACT is done. */
+        int valueBehind(int week, int stand) {
+            int at = placeOf(week, stand);
+            if (at < 0) {
+                return 0;
+            }
+            if (isVoid(values[at])) {
+                values[at] = stamped(mean(week, stand, false));
+            }
+            return (int) values[at];
+        }
+
+        int leftBehind(int week, int stand) {
+            int at = placeOf(week, stand);
+            if (at < 0) {
+                return 0;
+            }
+            if (isVoid(lefts[at])) {
+                lefts[at] = stamped(mean(week, stand, true));
+            }
+            return (int) lefts[at];
+        }
+
+        int broughtBy(int week, int stand, int code) {
+            int had = cellar.hadBy(stand, code, week);
+            return 1000 * had + valueBehind(week, standBehind(stand, code));
+        }
+
+        /** Where a WEEK and a STAND have their place in the rows; -1: nothing is left to be had. */
+        private int placeOf(int week, int stand) {
+            if (week < 0 || week >= cellar.weeks || stand <= 0) {
+                return -1;
+            }
+            int at = (week << bits) + stand;
+            return at >= 0 && at < plans.length ? at : -1;
+        }
+
+        private int standBehind(int stand, int code) {
+            if (code == NOTHING) {
+                return stand;
+            }
+            if (code >= SELL_FROM) {
+                return without(stand, code - SELL_FROM);
+            }
+            return portionsOf(stand, code) == 1 ? without(stand, code) : cellar.standAfter(stand, code);
+        }
+
+        /** The VALUE, times 8, and the code of the ACT that brings it. */
+        private int planAt(int week, int stand) {
             int at = placeOf(week, stand);
             if (at < 0) {
                 return NOTHING;
             }
-            // stamp and code share a number, so that one row tells both
-            if (choices[at] >> 3 != stamp) {
-                int code = rule == BEST ? bestCode(week, stand) : ruleCode(stand);
-                choices[at] = stamp << 3 | code;
+            if (isVoid(plans[at])) {
+                plans[at] = stamped(rule == BEST ? bestPlan(week, stand) : rulePlan(week, stand));
             }
-            return choices[at] & 7;
+            return (int) plans[at];
         }
 
-        private int bestCode(int week, int stand) {
+        private int bestPlan(int week, int stand) {
             int best = NOTHING;
             int most = -1;
             for (int code = 0; code <= NOTHING; code++) {
@@ -958,13 +1001,13 @@ public final class CheeseFirst {
                     }
                 }
             }
-            return best;
+            return most << 3 | best;
         }
 
-        private int ruleCode(int stand) {
+        private int rulePlan(int week, int stand) {
             int chosen = NOTHING;
             int most = 0;
-            for (int w = 0; w < MOST_WHEELS; w++) {
+            for (int w = 0; w < cellar.wheels; w++) {
                 if (cellar.mayEat(stand, w)) {
                     int rank = rankOf(stand, w);
                     if (chosen == NOTHING || rank > most) {
@@ -973,7 +1016,7 @@ public final class CheeseFirst {
                     }
                 }
             }
-            return chosen;
+            return broughtBy(week, stand, chosen) << 3 | chosen;
         }
 
         private int rankOf(int stand, int w) {
@@ -985,42 +1028,19 @@ public final class CheeseFirst {
             }
         }
 
-        /** Where a WEEK and a STAND have their place in the rows; -1: none, or nothing is left to be had. */
-        private int placeOf(int week, int stand) {
-            if (week < 0 || week >= cellar.weeks || stand <= 0) {
-                return -1;
-            }
-            int at = (week << bits) + stand;
-            return at >= 0 && at < stamps.length ? at : -1;
-        }
-
-        private int workedOut(int week, int stand) {
-            int at = placeOf(week, stand);
-            if (at >= 0 && stamps[at] != stamp) {
-                workOut(week, stand, at);
-            }
-            return at;
-        }
-
-        private void workOut(int week, int stand, int at) {
+        private int mean(int week, int stand, boolean ofLeft) {
             int tenths0 = cellar.tenthsNow(stand, stopped, 0, week);
             int tenths1 = cellar.tenthsNow(stand, stopped, 1, week);
             int tenths2 = cellar.tenthsNow(stand, stopped, 2, week);
-            long value = 0;
-            long left = 0;
+            long sum = 0;
             for (int way = 0; way < 8; way++) {
                 int weight = share(way, 0, tenths0) * share(way, 1, tenths1) * share(way, 2, tenths2);
                 if (weight > 0) {
                     int then = standBy(stand, way);
-                    value += (long) weight * valueAhead(week + 1, then);
-                    left += (long) weight * leftAhead(week + 1, then);
+                    sum += (long) weight * (ofLeft ? leftAhead(week + 1, then) : valueAhead(week + 1, then));
                 }
             }
-            if (at >= 0 && at < stamps.length) {
-                stamps[at] = stamp;
-                values[at] = (int) (value / 1000);
-                lefts[at] = (int) (left / 1000);
-            }
+            return (int) (sum / 1000);
         }
 
         private static int share(int way, int w, int tenths) {
@@ -1028,11 +1048,7 @@ public final class CheeseFirst {
         }
 
         private static int standBy(int stand, int way) {
-            int then = stand;
-            for (int w = 0; w < MOST_WHEELS; w++) {
-                then += has(way, w) ? field(w, 1, 0) : 0;
-            }
-            return then;
+            return stand + (way & 1) * field(0, 1, 0) + (way >> 1 & 1) * field(1, 1, 0) + (way >> 2) * field(2, 1, 0);
         }
     }
 
