@@ -507,17 +507,18 @@ public final class CheeseFirst {
         }
 
         boolean isWhole(int stand, int w) {
-            return isWheel(w) && portionsOf(stand, w) == portionsAtFirst(w);
+            return w >= 0 && w < MOST_WHEELS && portionsOf(stand, w) == portionsOfWheel[w];
         }
 
         boolean isOpen(int stand, int w) {
-            return isWheel(w) && portionsOf(stand, w) > 0 && !isWhole(stand, w);
+            return portionsOf(stand, w) > 0 && !isWhole(stand, w);
         }
 
         int countOpen(int stand) {
             int open = 0;
-            for (int w = 0; w < wheels; w++) {
-                open += isOpen(stand, w) ? 1 : 0;
+            for (int w = 0; w < MOST_WHEELS; w++) {
+                int portions = portionsOf(stand, w);
+                open += portions > 0 && portions < portionsOfWheel[w] ? 1 : 0;
             }
             return open;
         }
@@ -534,7 +535,7 @@ public final class CheeseFirst {
         }
 
         boolean maySell(int stand, int w) {
-            return isWhole(stand, w) && stepOf(stand, w) <= 1;
+            return isWheel(w) && isWhole(stand, w) && stepOf(stand, w) <= 1;
         }
 
         /** Whether an ACT may be, as far as WHEELS go. */
@@ -586,7 +587,7 @@ public final class CheeseFirst {
         }
     }
 
-    /** Reads THE TEXT, TOKEN by TOKEN, into a cellar; stands on the TOKEN that is looked at. */
+    /** Cuts THE TEXT into TOKENS, then reads them one by one into a cellar. */
     private static final class Reader {
         private static final int END = 0;
         private static final int NUMBER = 1;
@@ -604,9 +605,12 @@ public final class CheeseFirst {
 
         private final byte[] text;
         private final Cellar into;
+        // behind the last TOKEN stands END, whose place is the text's length
+        private final int[] tokens = new int[MOST_BYTES + 1];
+        private final int[] numbers = new int[MOST_BYTES + 1];
+        private final int[] places = new int[MOST_BYTES + 1];
         private int length = 0;
-        private int from = 0;
-        private int behind = 0;
+        private int at = 0;
         private int token = END;
         private int number = 0;
 
@@ -617,18 +621,27 @@ public final class CheeseFirst {
 
         /** How many ITEMS; -10 less FAULT. */
         int readAll(int bytes) {
-            length = Math.min(bytes, text.length);
-            behind = 0;
+            length = Math.max(0, Math.min(bytes, MOST_BYTES));
+            cutUp();
             into.becomeEmpty();
-            step();
-            int items = 0;
-            for (int i = 0; i < MOST_BYTES && token != END; i++) {
-                if (!readItem(items == 0)) {
-                    return -10 - from;
+            lookAt(0);
+            for (int items = 0; items < MOST_BYTES; items++) {
+                if (token == END) {
+                    return items;
                 }
-                items++;
+                if (!readItem(items == 0)) {
+                    break;
+                }
             }
-            return items;
+            return -10 - places[at];
+        }
+
+        private void lookAt(int k) {
+            if (k >= 0 && k < tokens.length) {
+                at = k;
+                token = tokens[k];
+                number = numbers[k];
+            }
         }
 
         private boolean readItem(boolean first) {
@@ -644,12 +657,12 @@ public final class CheeseFirst {
         }
 
         private boolean readWeeks() {
-            step();
-            if (!takeNumber(1, MOST_WEEKS)) {
+            lookAt(at + 1);
+            if (!isNumber(1, MOST_WEEKS)) {
                 return false;
             }
             into.weeks = number;
-            step();
+            lookAt(at + 1);
             return take(SEMICOLON);
         }
 
@@ -672,58 +685,58 @@ public final class CheeseFirst {
 
         private boolean readWheel() {
             int w = into.wheels;
-            step();
-            if (w < 0 || w >= MOST_WHEELS || !takeNumber(0, into.sorts - 1)) {
+            lookAt(at + 1);
+            if (w < 0 || w >= MOST_WHEELS || !isNumber(0, into.sorts - 1)) {
                 return false;
             }
             into.sortOfWheel[w] = number;
-            step();
-            if (!takeNumber(1, 3)) {
+            lookAt(at + 1);
+            if (!isNumber(1, 3)) {
                 return false;
             }
             into.portionsOfWheel[w] = number;
             into.wheels++;
-            step();
+            lookAt(at + 1);
             return take(SEMICOLON);
         }
 
         private boolean readOpen() {
-            step();
-            if (!takeNumber(1, 3)) {
+            lookAt(at + 1);
+            if (!isNumber(1, 3)) {
                 return false;
             }
             into.openMost = number;
-            step();
+            lookAt(at + 1);
             return take(SEMICOLON);
         }
 
         private boolean readOfWeek(int[] row, int most) {
-            step();
-            if (!takeNumber(0, MOST_WEEKS - 1)) {
+            lookAt(at + 1);
+            if (!isNumber(0, MOST_WEEKS - 1)) {
                 return false;
             }
             int week = number;
-            step();
-            if (!takeNumber(0, most) || week < 0 || week >= row.length) {
+            lookAt(at + 1);
+            if (!isNumber(0, most) || week < 0 || week >= row.length) {
                 return false;
             }
             row[week] = number;
-            step();
+            lookAt(at + 1);
             return take(SEMICOLON);
         }
 
         private boolean takeRow(int[] row, int start, int end, int most) {
-            for (int i = start; i < end && i < row.length; i++) {
-                if (!takeNumber(0, most)) {
+            for (int i = start; i < end && i >= 0 && i < row.length; i++) {
+                if (!isNumber(0, most)) {
                     return false;
                 }
                 row[i] = number;
-                step();
+                lookAt(at + 1);
             }
             return true;
         }
 
-        private boolean takeNumber(int least, int most) {
+        private boolean isNumber(int least, int most) {
             return token == NUMBER && number >= least && number <= most;
         }
 
@@ -731,69 +744,77 @@ public final class CheeseFirst {
             if (token != wanted) {
                 return false;
             }
-            step();
+            lookAt(at + 1);
             return true;
         }
 
-        private void step() {
-            from = behind;
-            while (from < length && text[from] == ' ') {
-                from++;
+        private void cutUp() {
+            int count = 0;
+            int from = 0;
+            while (from < length && from < text.length && count < MOST_BYTES) {
+                int end = from + 1;
+                if (text[from] != ' ') {
+                    end = endOfToken(from);
+                    tokens[count] = tokenOf(from, end);
+                    numbers[count] = tokens[count] == NUMBER ? numberOf(from, end) : 0;
+                    places[count] = from;
+                    count++;
+                }
+                from = end;
             }
-            behind = from;
-            if (from >= length) {
-                token = END;
-            } else if (isLetter(from)) {
-                token = wordFrom();
-            } else if (isDigit(from)) {
-                token = numberFrom();
-            } else {
-                behind = from + 1;
-                token = text[from] == ';' ? SEMICOLON : BROKEN;
-            }
+            tokens[count] = END;
+            places[count] = length;
         }
 
-        private boolean isLetter(int at) {
-            return at >= 0 && at < length && text[at] >= 'a' && text[at] <= 'z';
+        private boolean isBetween(int place, char least, char most) {
+            return place >= 0 && place < text.length && text[place] >= least && text[place] <= most;
         }
 
-        private boolean isDigit(int at) {
-            return at >= 0 && at < length && text[at] >= '0' && text[at] <= '9';
+        /** Behind all letters or digits that follow one another; else one byte on. */
+        private int endOfToken(int from) {
+            boolean word = isBetween(from, 'a', 'z');
+            boolean figure = isBetween(from, '0', '9');
+            int end = from + 1;
+            while (end < length && (word && isBetween(end, 'a', 'z') || figure && isBetween(end, '0', '9'))) {
+                end++;
+            }
+            return end;
         }
 
-        private int numberFrom() {
-            while (behind < length && isDigit(behind)) {
-                behind++;
+        private int tokenOf(int from, int end) {
+            if (isBetween(from, 'a', 'z')) {
+                return wordOf(from, end);
             }
-            int digits = behind - from;
-            if (digits > 2 || (digits == 2 && text[from] == '0')) {
-                return BROKEN;
+            if (isBetween(from, ';', ';')) {
+                return SEMICOLON;
             }
-            number = 0;
-            for (int i = from; i < behind; i++) {
-                number = 10 * number + (text[i] - '0');
-            }
-            return NUMBER;
+            boolean zeroAhead = end - from > 1 && isBetween(from, '0', '0');
+            return isBetween(from, '0', '9') && end - from <= 2 && !zeroAhead ? NUMBER : BROKEN;
         }
 
-        private int wordFrom() {
-            while (behind < length && isLetter(behind)) {
-                behind++;
+        private int numberOf(int from, int end) {
+            int sum = 0;
+            for (int i = from; i >= 0 && i < end && i < text.length; i++) {
+                sum = 10 * sum + (text[i] - '0');
             }
-            if (isWord("weeks")) return WEEKS;
-            if (isWord("sort")) return SORT;
-            if (isWord("whole")) return WHOLE;
-            if (isWord("cut")) return CUT;
-            if (isWord("sign")) return SIGN;
-            if (isWord("wheel")) return WHEEL;
-            if (isWord("open")) return OPEN;
-            if (isWord("warm")) return WARM;
-            if (isWord("price")) return PRICE;
+            return sum;
+        }
+
+        private int wordOf(int from, int end) {
+            if (isWord("weeks", from, end)) return WEEKS;
+            if (isWord("sort", from, end)) return SORT;
+            if (isWord("whole", from, end)) return WHOLE;
+            if (isWord("cut", from, end)) return CUT;
+            if (isWord("sign", from, end)) return SIGN;
+            if (isWord("wheel", from, end)) return WHEEL;
+            if (isWord("open", from, end)) return OPEN;
+            if (isWord("warm", from, end)) return WARM;
+            if (isWord("price", from, end)) return PRICE;
             return BROKEN;
         }
 
-        private boolean isWord(String word) {
-            if (behind - from != word.length()) {
+        private boolean isWord(String word, int from, int end) {
+            if (end - from != word.length() || from < 0 || end > text.length) {
                 return false;
             }
             for (int i = 0; i < word.length(); i++) {
@@ -916,7 +937,7 @@ public final class CheeseFirst {
 
         /** The VALUE at a WEEK whose ACT is not done. */
         int valueAhead(int week, int stand) {
-            return week >= cellar.weeks ? 0 : planAt(week, stand) >> 3;
+            return planAt(week, stand) >> 3;
         }
 
         int leftAhead(int week, int stand) {
@@ -1029,26 +1050,32 @@ public final class CheeseFirst {
         }
 
         private int mean(int week, int stand, boolean ofLeft) {
+            if (!ofLeft && week + 1 >= cellar.weeks) {
+                return 0;
+            }
             int tenths0 = cellar.tenthsNow(stand, stopped, 0, week);
             int tenths1 = cellar.tenthsNow(stand, stopped, 1, week);
             int tenths2 = cellar.tenthsNow(stand, stopped, 2, week);
             long sum = 0;
-            for (int way = 0; way < 8; way++) {
-                int weight = share(way, 0, tenths0) * share(way, 1, tenths1) * share(way, 2, tenths2);
-                if (weight > 0) {
-                    int then = standBy(stand, way);
-                    sum += (long) weight * (ofLeft ? leftAhead(week + 1, then) : valueAhead(week + 1, then));
+            for (int goes2 = 0; goes2 <= 1; goes2++) {
+                int weight2 = share(goes2, tenths2);
+                for (int goes1 = 0; goes1 <= 1 && weight2 > 0; goes1++) {
+                    int weight1 = weight2 * share(goes1, tenths1);
+                    for (int goes0 = 0; goes0 <= 1 && weight1 > 0; goes0++) {
+                        int weight = weight1 * share(goes0, tenths0);
+                        if (weight > 0) {
+                            int then = stand + field(0, goes0, 0) + field(1, goes1, 0) + field(2, goes2, 0);
+                            int number = ofLeft ? leftAhead(week + 1, then) : valueAhead(week + 1, then);
+                            sum += (long) weight * number;
+                        }
+                    }
                 }
             }
             return (int) (sum / 1000);
         }
 
-        private static int share(int way, int w, int tenths) {
-            return has(way, w) ? tenths : 10 - tenths;
-        }
-
-        private static int standBy(int stand, int way) {
-            return stand + (way & 1) * field(0, 1, 0) + (way >> 1 & 1) * field(1, 1, 0) + (way >> 2) * field(2, 1, 0);
+        private static int share(int goes, int tenths) {
+            return goes == 1 ? tenths : 10 - tenths;
         }
     }
 
