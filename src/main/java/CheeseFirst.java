@@ -751,7 +751,7 @@ public final class CheeseFirst {
         private void cutUp() {
             int count = 0;
             int from = 0;
-            while (from < length && from < text.length && count < MOST_BYTES) {
+            for (int i = 0; i < MOST_BYTES && from < length && from < text.length; i++) {
                 int end = from + 1;
                 if (text[from] != ' ') {
                     end = endOfToken(from);

@@ -661,6 +661,81 @@ public final class PromisesTest {
         due("26 nothing changed", y.thinks(0, 0), 282429536481L);
     }
 
+    private void greatestWeight() {
+        CheeseFirst edge = Due.of("sort 1 0 0 0 whole 5 0 0 cut 0 0 0 sign 10 1 0 0;");
+        edge.aged();
+        for (int i = 0; i < 12; i++) {
+            due("26 shown " + i, edge.shown(1), 1);
+        }
+        due("26 1000000000000 is not above it", edge.thinks(0, 0), 1000000000000L);
+        due("26 1000000000000 and 1", edge.thinks(0, 1), 1000000000001L);
+        due("26 ten times that is", edge.shown(1), -3);
+        String[] signs = {"10 1 1 1", "1 10 1 1", "1 1 10 1", "1 1 1 10"};
+        int[] shares = {1, 3, 3, 1};
+        for (int step = 0; step < 4; step++) {
+            CheeseFirst x = Due.of("sort 1 0 0 0 whole 5 5 5 cut 0 0 0 sign " + signs[step] + ";");
+            x.aged();
+            x.aged();
+            x.aged();
+            int often = shares[step] == 1 ? 12 : 11;
+            for (int i = 0; i < often; i++) {
+                due("26 shown " + i, x.shown(1), 1);
+            }
+            due("26 full by step " + step, x.shown(1), -3);
+        }
+    }
+
+    private void longTexts() {
+        fault(";".repeat(400), 0);
+        fault("open 1;" + ";".repeat(393), 7);
+        fault(" ".repeat(399) + "x", 399);
+        fault(" ".repeat(396) + "open", 400);
+        fault(" ".repeat(394) + "open 1", 400);
+        CheeseFirst x = new CheeseFirst();
+        due("4 400 bytes", Due.read(x, "open2;".repeat(66) + "    "), 66);
+        due("4 400 blanks", Due.read(x, " ".repeat(400)), 0);
+    }
+
+    /** What was worked out before must not be told again once something is another. */
+    private void askedAgain() {
+        CheeseFirst x = Due.of(ONE);
+        due("15 at first", x.value(4), 30000);
+        due("20 at first", x.blind(-1), 30000);
+        x.place(0, 2, 2);
+        due("15 placed", x.value(4), 60000);
+        due("20 placed", x.blind(-1), 60000);
+        x.place(0, 0, 2);
+        x.stop(0);
+        due("15 stopped", x.value(4), 20000);
+        due("15 stopped, old", x.value(0), 20000);
+        due("20 stopped", x.blind(-1), 20000);
+        x.keep(0);
+        x.eat(0);
+        due("15 eaten", x.value(4), 10000);
+        due("20 eaten", x.blind(-1), 10000);
+        x.next();
+        due("20 the next week", x.blind(-1), 10000);
+        due("20 its length", x.blind(-2), 1);
+        x.back(0);
+        due("15 back", x.value(4), 20000);
+        due("20 back", x.blind(-2), 2);
+        Due.read(x, "weeks 2;sort 1 2 3 4" + STILL + "wheel 0 2;");
+        due("15 another cellar", x.value(4), 2000);
+        due("15 another cellar, old", x.value(0), 2000);
+        due("20 another cellar", x.blind(-1), 2000);
+        Due.read(x, "weeks 2;sort 1 2 3 4" + STILL + "wheel 0 2;wheel 0 2;wheel 0 2;price 0 7;");
+        due("15 more wheels", x.value(4), 15000);
+        due("16 more wheels", x.left(4), 3000);
+        due("16 more wheels, old", x.left(0), 4000);
+        Due.read(x, "weeks 8;sort 1 2 3 4" + STILL + "wheel 0 3;wheel 0 3;wheel 0 3;");
+        due("15 more weeks", x.value(4), 8000);
+        due("16 more weeks", x.left(4), 1000);
+        due("20 more weeks", x.blind(-1), 8000);
+        Due.read(x, "weeks 8;sort 1 2 3 4" + STILL + "wheel 0 3;");
+        due("15 fewer", x.value(4), 3000);
+        due("16 fewer", x.left(3), 0);
+    }
+
     private void notes() {
         CheeseFirst x = Due.of(HOUSE + "wheel 0 3;");
         x.place(2, 1, 2);
@@ -764,6 +839,9 @@ public final class PromisesTest {
         t.thoughts();
         t.thoughtsWithoutSort();
         t.fullThought();
+        t.greatestWeight();
+        t.longTexts();
+        t.askedAgain();
         t.notes();
         t.images();
         t.counts();
