@@ -514,6 +514,9 @@ public final class PromisesTest {
         x.eat(0);
         due("19 the act is done", x.play(0), 90);
         due("19 with what was had", x.now(2), 100);
+        CheeseFirst eight = Due.of("weeks 8;sort 1 1 1 1" + STILL + "wheel 0 3;wheel 0 3;wheel 0 3;");
+        due("19 eight weeks", eight.play(4), 8);
+        due("19 to the end", eight.now(0), 8);
     }
 
     private void blindRows() {
