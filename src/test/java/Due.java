@@ -1,20 +1,42 @@
 import java.nio.charset.StandardCharsets;
+import java.util.ArrayList;
+import java.util.List;
 
 /** Counts answers that are not as due, and types texts. */
 final class Due {
     private static final int SHOWN_AT_MOST = 40;
 
+    private final List<String> sentences = new ArrayList<>();
+    private String sentence = "";
     private int wrong = 0;
     private int asked = 0;
+
+    /** The words of the document that the answers from here on hold to. */
+    void sentence(String words) {
+        sentence = "'" + words + "': ";
+        sentences.add(words);
+    }
+
+    List<String> sentences() {
+        return sentences;
+    }
 
     void due(String call, long got, long want) {
         asked++;
         if (got != want) {
             wrong++;
             if (wrong <= SHOWN_AT_MOST) {
-                System.out.println(call + " answered " + got + ", due is " + want);
+                System.out.println(sentence + call + " answered " + got + ", due is " + want);
             }
         }
+    }
+
+    void alike(String call, String got, String want) {
+        if (!got.equals(want)) {
+            System.out.println(got);
+            System.out.println(want);
+        }
+        due(call, got.equals(want) ? 1 : 0, 1);
     }
 
     void end(String name) {
