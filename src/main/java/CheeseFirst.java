@@ -892,7 +892,8 @@ public final class CheeseFirst {
     /**
      * What a RULE brings and leaves, from any WEEK and STAND on. What was worked out stays in rows, each
      * number under the stamp of its time: another RULE, another cellar, other WHEELS STOPPED are a new
-     * stamp, by which all that is older is void. STANDS are lean here.
+     * stamp, by which all that is older is void. STANDS are lean here. The recursion goes WEEK by WEEK, of
+     * which there are eight at most: beyond the last WEEK nothing has a place in the rows.
      */
     private static final class Outlook {
         private final Cellar cellar;
@@ -936,23 +937,23 @@ public final class CheeseFirst {
         }
 
         /** The VALUE at a WEEK whose ACT is not done. */
-        int valueAhead(int week, int stand) {
+        private int valueAhead(int week, int stand) {
             return planAt(week, stand) >> 3;
         }
 
-        int leftAhead(int week, int stand) {
+        private int leftAhead(int week, int stand) {
             if (week >= cellar.weeks) {
                 return 1000 * allPortions(stand);
             }
             return leftBehind(week, standBehind(stand, choiceAt(week, stand)));
         }
 
-        int choiceAt(int week, int stand) {
+        private int choiceAt(int week, int stand) {
             return planAt(week, stand) & 7;
         }
 
         /** The MEAN of the VALUE that follows a WEEK whose ACT is done. */
-        int valueBehind(int week, int stand) {
+        private int valueBehind(int week, int stand) {
             int at = placeOf(week, stand);
             if (at < 0) {
                 return 0;
@@ -963,7 +964,7 @@ public final class CheeseFirst {
             return (int) values[at];
         }
 
-        int leftBehind(int week, int stand) {
+        private int leftBehind(int week, int stand) {
             int at = placeOf(week, stand);
             if (at < 0) {
                 return 0;
@@ -974,7 +975,7 @@ public final class CheeseFirst {
             return (int) lefts[at];
         }
 
-        int broughtBy(int week, int stand, int code) {
+        private int broughtBy(int week, int stand, int code) {
             int had = cellar.hadBy(stand, code, week);
             return 1000 * had + valueBehind(week, standBehind(stand, code));
         }

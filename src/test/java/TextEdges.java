@@ -125,6 +125,9 @@ final class TextEdges {
         due.due("byte 401", x.type(' ', 1), -3);
         due.due("400 bytes", x.cellar(), 1);
         reads(" ".repeat(400), 0);
+        fault("", ";", ";".repeat(399));
+        fault("open 1;", ";", ";".repeat(392));
+        fault("", "1", " 1".repeat(199));
         reads("open 3;".repeat(57), 57);
         due.sentence("read byte by byte, blanks (32) between TOKENS");
         reads("  weeks   3  ;  open  2 ;   ", 2);

@@ -31,10 +31,12 @@ final class ValueEdges {
         blindWeeks();
         blindMayBe();
         blindValue();
+        blindLater();
         blindRoundedDown();
         blindFirst();
         know();
         spare();
+        askedAgain();
         value();
         choice();
         brings();
@@ -91,6 +93,9 @@ final class ValueEdges {
         x = Due.of(sorts + "wheel 0 1;wheel 1 1;wheel 2 1;warm 0 5;warm 1 1;");
         due.due("tenths 6, 7, 10 by warmth", x.brings(6), 40000);
         due.due("WHEELS 0 and 1: 7/10, else 6/10", x.brings(2), 15800);
+        x = Due.of("weeks 2;sort 0 40 0 0 whole 1 0 0 cut 0 0 0 sign 0 0 0 0;sort 0 0 0 0 whole 1 0 0 cut 0 0 0 sign 0 0 0 0;"
+                + "wheel 0 1;wheel 1 1;wheel 1 1;");
+        due.due("the way of weight 1 * 1 * 1, too", x.brings(6), 4000);
     }
 
     private void roundedDown() {
@@ -332,6 +337,23 @@ final class ValueEdges {
         row(placed, 0, 6, 6, 6);
     }
 
+    private void blindLater() {
+        due.sentence("as it stands NOW");
+        CheeseFirst x = Due.of("weeks 3;sort 0 10 50 0 whole 5 5 0 cut 0 5 0 sign 0 0 0 0;wheel 0 2;warm 1 5;warm 0 1;");
+        x.next();
+        x.place(0, 0, 2);
+        row(x, 10000, 6, 0);
+        x.place(0, 1, 2);
+        row(x, 60000, 0, 0);
+        x.place(0, 1, 1);
+        row(x, 50000, 6, 0);
+        x.next();
+        x.place(0, 1, 2);
+        row(x, 10000, 0);
+        // at STEP 3 behind seven WEEKS: 99 of 128
+        row(Due.of("weeks 8;sort 0 0 0 9 whole 5 5 5 cut 0 0 0 sign 0 0 0 0;wheel 0 1;"), 6960, 6, 6, 6, 6, 6, 6, 6, 0);
+    }
+
     private void blindRoundedDown() {
         due.sentence("in thousandths, rounded down, added");
         due.due("3.7", Due.of("weeks 5;" + SLOW + "wheel 0 1;").blind(-1), 3);
@@ -375,6 +397,48 @@ final class ValueEdges {
         due.due("in the last WEEK", x.spare(0), 0);
         x.next();
         due.due("over", x.spare(0), 0);
+    }
+
+    /** What was worked out before must not be told again once something is another. */
+    private void askedAgain() {
+        due.sentence("what stands how is seen");
+        String flat = "sort 7 7 7 7" + STILL + "wheel 0 2;";
+        CheeseFirst x = Due.of("weeks 2;sort 10 20 30 40" + STILL + "wheel 0 2;");
+        asked("at first", x, 20000);
+        Due.read(x, "weeks 2;" + flat);
+        asked("another SORT", x, 14000);
+        Due.read(x, "weeks 1;" + flat);
+        asked("another W", x, 7000);
+        Due.read(x, "weeks 3;" + flat + "wheel 0 2;");
+        asked("more WHEELS", x, 21000);
+        Due.read(x, "weeks 2;sort 10 20 30 40" + SURE + "wheel 0 2;");
+        asked("going on", x, 30000);
+        x.place(0, 1, 2);
+        asked("placed", x, 50000);
+        x.stop(0);
+        asked("STOPPED", x, 40000);
+        x.keep(0);
+        x.eat(0);
+        asked("EATEN", x, 20000);
+        x.back(0);
+        x.place(0, 1, 1);
+        asked("as if EATEN, the ACT is not done", x, 20000);
+        due.due("its length", x.blind(-2), 2);
+        x.eat(0);
+        x.place(0, 1, 1);
+        due.due("the ACT is done", x.blind(-2), 1);
+        x.back(0);
+        asked("back", x, 40000);
+        x.next();
+        asked("the next WEEK", x, 20000);
+        due.due("its length", x.blind(-2), 1);
+    }
+
+    /** GOOD alone is had, so that each RULE and BLIND bring the same. */
+    private void asked(String what, CheeseFirst x, int value) {
+        for (int rule = 4; rule >= 0; rule--) due.due(what + ", value(" + rule + ")", x.value(rule), value);
+        due.due(what + ", blind(-1)", x.blind(-1), value);
+        due.due(what + ", know()", x.know(), 0);
     }
 
     private void value() {

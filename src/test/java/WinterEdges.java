@@ -6,7 +6,7 @@ final class WinterEdges {
     private static final String STILL = " whole 0 0 0 cut 0 0 0 sign 0 0 0 0;";
     private static final String SURE = " whole 10 10 10 cut 10 10 10 sign 0 0 0 0;";
     private static final String HOUSE = "weeks 4;sort 10 20 30 40 whole 1 2 3 cut 4 5 6 sign 0 0 0 0;"
-            + "sort 5 0 99 1" + STILL + "wheel 0 3;wheel 1 2;wheel 0 1;price 0 9;price 1 99;";
+            + "sort 5 0 99 1" + STILL + "wheel 0 3;wheel 1 2;wheel 0 1;price 0 9;price 1 99;price 3 7;";
     // from LOT 1 on: the LOTS that follow, whose upper bits left over by 10 are 8, 6, 3, 3
     private static final int[] LOTS = {1103527590, -1770082073, 662824084, -999580867};
 
@@ -450,10 +450,12 @@ final class WinterEdges {
         x.eat(1);
         x.next();
         x.place(0, 0, 3);
-        x.place(2, 3, 1);
+        x.place(2, 0, 1);
         x.stop(0);
         x.stop(2);
         x.lot(5);
+        x.sell(2);
+        x.place(2, 3, 1);
         due.due("keep(1)", x.keep(1), 3);
         due.due("back(0)", x.back(0), 1);
         int[] now = {1, 1, x.wheel(0, 6), 9, 3, 0, 2};
@@ -468,8 +470,9 @@ final class WinterEdges {
         due.due("THE LOT", x.lot(0), -77);
         due.due("the ACT is done", x.eat(0), -2);
         due.due("back(1)", x.back(1), 3);
-        due.due("the ACT is not done", x.now(1), 0);
+        due.due("the ACT is done, of another WEEK", x.now(1), 1);
         due.due("GOOD had", x.now(2) - now[2], 99);
+        due.due("coins had", x.now(3), 16);
         due.due("PORTIONS", x.now(4), 4);
         due.due("STEP", x.wheel(2, 2), 3);
         due.due("STOPPED", x.wheel(2, 5), 1);
@@ -513,7 +516,7 @@ final class WinterEdges {
         x.aged();
         x.lot(4711);
         x.note(0, 0);
-        due.due("the same CELLAR again", Due.read(x, HOUSE), 8);
+        due.due("the same CELLAR again", Due.read(x, HOUSE), 9);
         int[] now = {0, 0, 0, 0, 6, 0, 0};
         for (int what = 0; what < 7; what++) due.due("now(" + what + ")", x.now(what), now[what]);
         for (int w = 0; w < 3; w++) {
