@@ -4,7 +4,7 @@ import java.util.Arrays;
  * Which cheese first: a cellar of wheels, told by a text, and a winter in which they are eaten or sold.
  *
  * How all WHEELS stand at once is one number, a STAND: four bits a WHEEL (WHEEL 0 the lowest), its STEP
- * in the upper two of them, its PORTIONS in the lower two. So a STAND is a place in a row as it is.
+ * in the upper two of them, its PORTIONS in the lower two.
  */
 public final class CheeseFirst {
     public static final int BAD = -1, STATE = -2, FULL = -3, NONE = -9;
@@ -16,6 +16,8 @@ public final class CheeseFirst {
     private static final int MOST_WEEKS = 8;
     private static final int STEPS = 4;
     private static final int LAST_STEP = 3;
+    // STEP and PORTIONS of one WHEEL in a STAND
+    private static final int FIELDS = 16;
     private static final int IMAGES = 2;
 
     private static final int TRAITS = 14;
@@ -209,22 +211,20 @@ public final class CheeseFirst {
     }
 
     private int valueNow(Outlook outlook) {
-        int stand = lean(winter.stand);
         if (winter.acted) {
-            return outlook.valueBehind(winter.week, stand);
+            return outlook.valueBehind(winter.week, winter.stand);
         }
-        return outlook.valueAhead(winter.week, stand);
+        return outlook.valueAhead(winter.week, winter.stand);
     }
 
     public int left(int rule) {
         if (!isRule(rule)) {
             return BAD;
         }
-        int stand = lean(winter.stand);
         if (winter.acted) {
-            return outlookBy(rule).leftBehind(winter.week, stand);
+            return outlookBy(rule).leftBehind(winter.week, winter.stand);
         }
-        return outlookBy(rule).leftAhead(winter.week, stand);
+        return outlookBy(rule).leftAhead(winter.week, winter.stand);
     }
 
     public int choice(int rule) {
@@ -232,7 +232,7 @@ public final class CheeseFirst {
     }
 
     private int choiceNow(int rule) {
-        return mayActNow() ? outlookBy(rule).choiceAt(winter.week, lean(winter.stand)) : NOTHING;
+        return mayActNow() ? outlookBy(rule).choiceAt(winter.week, winter.stand) : NOTHING;
     }
 
     public int brings(int code) {
@@ -242,7 +242,7 @@ public final class CheeseFirst {
         if (code != NOTHING && (!mayActNow() || !held.mayBe(winter.stand, code))) {
             return NO;
         }
-        return outlookBy(BEST).broughtBy(winter.week, lean(winter.stand), code);
+        return outlookBy(BEST).broughtBy(winter.week, winter.stand, code);
     }
 
     public int play(int rule) {
@@ -396,17 +396,6 @@ public final class CheeseFirst {
 
     private static int allPortions(int stand) {
         return portionsOf(stand, 0) + portionsOf(stand, 1) + portionsOf(stand, 2);
-    }
-
-    /** The STEP of a WHEEL without PORTIONS changes no VALUE: left out, fewer STANDS are worked out. */
-    private static int lean(int stand) {
-        int rest = stand;
-        for (int w = 0; w < MOST_WHEELS; w++) {
-            if (portionsOf(rest, w) == 0) {
-                rest = without(rest, w);
-            }
-        }
-        return rest;
     }
 
     private static boolean has(int wheels, int w) {
@@ -892,14 +881,16 @@ public final class CheeseFirst {
     /**
      * What a RULE brings and leaves, from any WEEK and STAND on. What was worked out stays in rows, each
      * number under the stamp of its time: another RULE, another cellar, other WHEELS STOPPED are a new
-     * stamp, by which all that is older is void. STANDS are lean here. The recursion goes WEEK by WEEK, of
-     * which there are eight at most: beyond the last WEEK nothing has a place in the rows.
+     * stamp, by which all that is older is void. The recursion goes WEEK by WEEK, of which there are eight
+     * at most: beyond the last WEEK nothing has a place in the rows.
      */
     private static final class Outlook {
         private final Cellar cellar;
         private int rule = OLD;
         private int stopped = 0;
-        private int bits = 0;
+        // what each of the 16 fields of a WHEEL in a STAND adds to a place in the rows
+        private final int[] shares = new int[MOST_WHEELS * FIELDS];
+        private int ways = 1;
         private long stamp = 1;
         private long[] plans = new long[0];
         private long[] values = new long[0];
@@ -911,7 +902,26 @@ public final class CheeseFirst {
 
         void forgetAll() {
             stamp++;
-            bits = 4 * cellar.wheels;
+            ways = 1;
+            for (int w = 0; w < MOST_WHEELS; w++) {
+                tellShares(w, ways);
+                ways *= STEPS * cellar.portionsAtFirst(w) + 1;
+            }
+        }
+
+        /** A WHEEL without PORTIONS stands in one way only: its STEP changes no VALUE. */
+        private void tellShares(int w, int unit) {
+            int n = cellar.portionsAtFirst(w);
+            for (int i = 0; i < FIELDS && w >= 0 && w < MOST_WHEELS; i++) {
+                int portions = portionsOf(i, 0);
+                int way = portions == 0 || portions > n ? 0 : n * stepOf(i, 0) + portions;
+                shares[w * FIELDS + i] = unit * way;
+            }
+        }
+
+        private int shareOf(int stand, int w) {
+            int at = w * FIELDS + ((stand >> (4 * w)) & (FIELDS - 1));
+            return at >= 0 && at < shares.length ? shares[at] : 0;
         }
 
         void lookBy(int newRule, int newStopped) {
@@ -920,7 +930,7 @@ public final class CheeseFirst {
             }
             rule = newRule;
             stopped = newStopped;
-            int room = cellar.wheels == 0 ? 0 : cellar.weeks << bits;
+            int room = MOST_WEEKS * ways;
             if (room > plans.length) {
                 plans = new long[room];
                 values = new long[room];
@@ -945,7 +955,7 @@ public final class CheeseFirst {
             if (week >= cellar.weeks) {
                 return 1000 * allPortions(stand);
             }
-            return leftBehind(week, standBehind(stand, choiceAt(week, stand)));
+            return leftBehind(week, cellar.standAfter(stand, choiceAt(week, stand)));
         }
 
         private int choiceAt(int week, int stand) {
@@ -977,26 +987,17 @@ public final class CheeseFirst {
 
         private int broughtBy(int week, int stand, int code) {
             int had = cellar.hadBy(stand, code, week);
-            return 1000 * had + valueBehind(week, standBehind(stand, code));
+            return 1000 * had + valueBehind(week, cellar.standAfter(stand, code));
         }
 
         /** Where a WEEK and a STAND have their place in the rows; -1: nothing is left to be had. */
         private int placeOf(int week, int stand) {
-            if (week < 0 || week >= cellar.weeks || stand <= 0) {
+            int way = shareOf(stand, 0) + shareOf(stand, 1) + shareOf(stand, 2);
+            if (week < 0 || week >= cellar.weeks || way == 0) {
                 return -1;
             }
-            int at = (week << bits) + stand;
+            int at = week * ways + way;
             return at >= 0 && at < plans.length ? at : -1;
-        }
-
-        private int standBehind(int stand, int code) {
-            if (code == NOTHING) {
-                return stand;
-            }
-            if (code >= SELL_FROM) {
-                return without(stand, code - SELL_FROM);
-            }
-            return portionsOf(stand, code) == 1 ? without(stand, code) : cellar.standAfter(stand, code);
         }
 
         /** The VALUE, times 8, and the code of the ACT that brings it. */
@@ -1059,11 +1060,11 @@ public final class CheeseFirst {
             int tenths2 = cellar.tenthsNow(stand, stopped, 2, week);
             long sum = 0;
             for (int goes2 = 0; goes2 <= 1; goes2++) {
-                int weight2 = share(goes2, tenths2);
+                int weight2 = partOf(goes2, tenths2);
                 for (int goes1 = 0; goes1 <= 1 && weight2 > 0; goes1++) {
-                    int weight1 = weight2 * share(goes1, tenths1);
+                    int weight1 = weight2 * partOf(goes1, tenths1);
                     for (int goes0 = 0; goes0 <= 1 && weight1 > 0; goes0++) {
-                        int weight = weight1 * share(goes0, tenths0);
+                        int weight = weight1 * partOf(goes0, tenths0);
                         if (weight > 0) {
                             int then = stand + field(0, goes0, 0) + field(1, goes1, 0) + field(2, goes2, 0);
                             int number = ofLeft ? leftAhead(week + 1, then) : valueAhead(week + 1, then);
@@ -1075,7 +1076,7 @@ public final class CheeseFirst {
             return (int) (sum / 1000);
         }
 
-        private static int share(int goes, int tenths) {
+        private static int partOf(int goes, int tenths) {
             return goes == 1 ? tenths : 10 - tenths;
         }
     }

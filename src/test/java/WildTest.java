@@ -6,7 +6,7 @@ public final class WildTest {
     private static final int CALLS = 512;
     private static final int RUNS = 400;
     // 7.3 million elements of at most 8 bytes are the room; a run on one object stays far below it
-    private static final long MOST_BYTES = 8L * 1000 * 1000;
+    private static final long MOST_BYTES = 4L * 1000 * 1000;
 
     private static final int[] ODD = {
         Integer.MIN_VALUE, Integer.MIN_VALUE + 1, -1000001, -10, -9, -4, -3, -2, -1, 0, 1, 2, 3, 4, 5, 6, 7, 8, 9, 13, 14, 16, 31, 32, 33,
@@ -71,18 +71,39 @@ public final class WildTest {
     }
 
     /** The dearest calls, one after the other, so that no one finds what another has worked out. */
-    private static boolean staysInItsRoom() {
-        CheeseFirst x = Due.of(CELLARS[3]);
+    private static long roomOfDearCalls() {
         long before = allocated();
+        CheeseFirst x = new CheeseFirst();
+        Due.read(x, CELLARS[3]);
         for (int i = 0; i < CALLS / 4; i++) {
             x.value(i % 5);
             x.left(4 - i % 5);
             x.spare(i % 3);
             x.know();
         }
-        long bytes = allocated() - before;
-        System.out.println("a run of dear calls makes " + bytes + " bytes");
-        return bytes < MOST_BYTES;
+        return allocated() - before;
+    }
+
+    /** Cellars that grow, so that rows which were made for one are too short for the next. */
+    private static long roomOfGrowingCellars() {
+        String sort = "sort 9 9 9 9 whole 1 2 3 cut 4 5 6 sign 0 1 2 3;";
+        long before = allocated();
+        CheeseFirst x = new CheeseFirst();
+        for (int w = 1; w <= 8; w++) {
+            for (int n = 1; n <= 3; n++) {
+                Due.read(x, "weeks " + w + ";" + sort + "wheel 0 1;".repeat(Math.min(w, 2)) + "wheel 0 " + n + ";");
+                x.value(4);
+                x.left(0);
+            }
+        }
+        return allocated() - before;
+    }
+
+    private static boolean staysInItsRoom() {
+        long dear = roomOfDearCalls();
+        long growing = roomOfGrowingCellars();
+        System.out.println("a run of dear calls makes " + dear + " bytes, one of growing cellars " + growing);
+        return dear < MOST_BYTES && growing < MOST_BYTES;
     }
 
     public static void main(String[] args) {
