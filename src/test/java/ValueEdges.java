@@ -105,6 +105,10 @@ final class ValueEdges {
         for (int w = 1; w <= 6; w++) {
             due.due("W " + w, Due.of("weeks " + w + ";" + SLOW + "wheel 0 1;").value(4), values[w - 1]);
         }
+        String rest = " 0 cut 0 0 0 sign 0 0 0 0;";
+        CheeseFirst near = Due.of("weeks 3;sort 0 1 2 0 whole 1 1" + rest + "sort 0 4 9 0 whole 1 9" + rest + "sort 0 1 9 0 whole 1 3" + rest
+                + "wheel 0 1;wheel 1 1;wheel 2 1;");
+        due.due("1739999 by 1000", near.brings(6), 1739);
         CheeseFirst x = Due.of("weeks 1;sort 9 9 9 9" + STILL + "wheel 0 3;wheel 0 3;wheel 0 3;price 0 1;");
         due.due("in the last WEEK the MEAN is 0", x.brings(6), 0);
         due.due("what is had alone", x.brings(0), 9000);
