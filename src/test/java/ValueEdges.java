@@ -37,6 +37,7 @@ final class ValueEdges {
         know();
         spare();
         askedAgain();
+        askedOfAllWays();
         value();
         choice();
         brings();
@@ -436,6 +437,29 @@ final class ValueEdges {
         x.next();
         asked("the next WEEK", x, 20000);
         due.due("its length", x.blind(-2), 1);
+    }
+
+    /** Two of three WHEELS in all ways, one way after the other on one object: two PORTIONS are EATEN, the best ones. */
+    private void askedOfAllWays() {
+        int[] good = {1, 2, 4, 8, 16, 32, 64, 99};
+        String sorts = "weeks 2;sort 1 2 4 8" + STILL + "sort 16 32 64 99" + STILL;
+        for (int none = 0; none < 3; none++) {
+            int a = none == 0 ? 1 : 0;
+            int b = none == 2 ? 1 : 2;
+            CheeseFirst x = Due.of(sorts + (none == 0 ? "wheel 0 3;wheel 0 3;wheel 1 3;" : none == 1 ? "wheel 0 3;wheel 1 1;wheel 1 3;"
+                    : "wheel 0 3;wheel 1 3;wheel 1 2;"));
+            x.place(none, 0, 0);
+            for (int i = 3; i < 16; i++) {
+                x.place(a, i / 4, i % 4);
+                for (int k = 3; k < 16; k++) {
+                    x.place(b, k / 4, k % 4);
+                    int fromB = Math.min(2, k % 4);
+                    int fromA = Math.min(2 - fromB, i % 4);
+                    int value = fromB * good[4 + k / 4] + fromA * good[i / 4];
+                    due.due("STEPS " + i / 4 + ", " + k / 4 + ", PORTIONS " + i % 4 + ", " + k % 4, x.value(4), 1000 * value);
+                }
+            }
+        }
     }
 
     /** GOOD alone is had, so that each RULE and BLIND bring the same. */
