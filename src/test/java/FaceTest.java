@@ -1,4 +1,3 @@
-import java.io.DataInputStream;
 import java.io.IOException;
 import java.lang.reflect.Constructor;
 import java.lang.reflect.Field;
@@ -151,32 +150,9 @@ public final class FaceTest {
     }
 
     private void libraryOf(Class<?> c) throws IOException {
-        try (DataInputStream in = new DataInputStream(c.getResourceAsStream(c.getName() + ".class"))) {
-            in.readLong();
-            int n = in.readUnsignedShort();
-            String[] texts = new String[n];
-            int[][] pairs = new int[n][2];
-            boolean[] member = new boolean[n];
-            for (int i = 1; i < n; i++) {
-                int tag = in.readUnsignedByte();
-                member[i] = tag == 9 || tag == 10 || tag == 11;
-                due.due("no lambda or joined text in " + c, tag == 18 ? 1 : 0, 0);
-                switch (tag) {
-                    case 1: texts[i] = in.readUTF(); break;
-                    case 5: case 6: in.readLong(); i++; break;
-                    case 7: case 8: case 16: case 19: case 20: pairs[i][0] = in.readUnsignedShort(); break;
-                    case 15: in.readUnsignedByte(); in.readUnsignedShort(); break;
-                    default: pairs[i][0] = in.readUnsignedShort(); pairs[i][1] = in.readUnsignedShort();
-                }
-            }
-            for (int i = 1; i < n; i++) {
-                if (member[i]) {
-                    String owner = texts[pairs[pairs[i][0]][0]];
-                    String name = owner + "." + texts[pairs[pairs[i][1]][0]];
-                    boolean own = owner.equals("CheeseFirst") || owner.startsWith("CheeseFirst$");
-                    due.due("used in " + c + ": " + name, own || LIBRARY.contains(name) ? 1 : 0, 1);
-                }
-            }
+        for (String name : ClassFile.usedBy(c)) {
+            boolean own = name.startsWith("CheeseFirst.") || name.startsWith("CheeseFirst$");
+            due.due("used in " + c + ": " + name, own || LIBRARY.contains(name) ? 1 : 0, 1);
         }
     }
 
